@@ -232,7 +232,7 @@ public final class RoundDance {
         int come = 1 << market.placeOf(good);
         for (int round = 0; round < Maps.PLACES; round++) {
             for (int p = 0; p < Maps.PLACES; p++) {
-                if ((come >>> p & 1) == 1) {
+                if (Cells.isIn(come, p)) {
                     come |= nextPlaces(p, ALL_FIGURES);
                 }
             }
@@ -264,7 +264,7 @@ public final class RoundDance {
         int wonBySecond = aim;
         // A round that wins no further place is the last; there are two times eight places to win.
         for (int calls = 0; calls <= 2 * Maps.PLACES; calls++) {
-            if ((wonByFirst >>> market.placeOf(good) & 1) == 1) {
+            if (Cells.isIn(wonByFirst, market.placeOf(good))) {
                 return calls;
             }
             int first = aim | placesWithSome(Cells.at(market.callers, 0), wonBySecond);
@@ -370,7 +370,7 @@ public final class RoundDance {
         if (!isYesOrNo(n)) {
             return OUTSIDE;
         }
-        if ((keptImages >>> n & 1) == 0) {
+        if (!Cells.isIn(keptImages, n)) {
             return STATE;
         }
         market.take(imageNumbered(n));
@@ -468,7 +468,7 @@ public final class RoundDance {
         int next = 0;
         for (int f = 0; f < FIGURES; f++) {
             int move = Cells.at(moves, f);
-            if (move != Market.FORBIDDEN && (figures >>> f & 1) == 1) {
+            if (move != Market.FORBIDDEN && Cells.isIn(figures, f)) {
                 next |= 1 << Maps.to(move, place);
             }
         }
@@ -581,6 +581,11 @@ public final class RoundDance {
             }
         }
 
+        /** Whether a number is among those whose bits are set. */
+        private static boolean isIn(int bits, int i) {
+            return ((bits >>> i) & 1) == 1;
+        }
+
         private static void fill(int[] row, int v) {
             for (int i = 0; i < row.length; i++) {
                 row[i] = v;
@@ -605,19 +610,20 @@ public final class RoundDance {
 
     /**
      * Maps of places to places, each in one number: where place p goes stands in its bits 3 p to 3 p + 2.
-     * Places that there are not stay. Shifts can not fail, and equal maps are equal numbers.
+     * STAYS takes each place to itself, and so do all maps places that there are not. Shifts can not fail,
+     * and equal maps are equal numbers.
      */
     private static final class Maps {
         private static final int PLACES = 8;
-        private static final int STAYS = 076543210;
+        private static final int STAYS = 0xFAC688;
         private static final int MOST_TIMES = 1000000;
 
         private static int to(int map, int from) {
-            return map >>> 3 * from & 7;
+            return (map >>> (3 * from)) & 7;
         }
 
         private static int with(int map, int from, int to) {
-            return map & ~(7 << 3 * from) | (to & 7) << 3 * from;
+            return (map & ~(7 << (3 * from))) | ((to & 7) << (3 * from));
         }
 
         private static int then(int first, int second) {
@@ -627,7 +633,7 @@ public final class RoundDance {
         private static int thenOf(int first, int second, int count) {
             int both = 0;
             for (int p = 0; p < count; p++) {
-                both |= to(second, to(first, p)) << 3 * p;
+                both |= to(second, to(first, p)) << (3 * p);
             }
             return both;
         }
@@ -635,7 +641,7 @@ public final class RoundDance {
         private static int undone(int map) {
             int back = 0;
             for (int p = 0; p < PLACES; p++) {
-                back |= p << 3 * to(map, p);
+                back |= p << (3 * to(map, p));
             }
             return back;
         }
@@ -644,7 +650,7 @@ public final class RoundDance {
         private static int passing(int map, int lame) {
             int danced = STAYS;
             for (int p = 0; p < PLACES; p++) {
-                if ((lame >>> p & 1) == 0) {
+                if (!Cells.isIn(lame, p)) {
                     danced = with(danced, p, firstNotLame(map, lame, to(map, p)));
                 }
             }
@@ -653,7 +659,7 @@ public final class RoundDance {
 
         private static int firstNotLame(int map, int lame, int place) {
             int p = place;
-            for (int passed = 0; passed < PLACES && (lame >>> p & 1) == 1; passed++) {
+            for (int passed = 0; passed < PLACES && Cells.isIn(lame, p); passed++) {
                 p = to(map, p);
             }
             return p;
@@ -708,7 +714,7 @@ public final class RoundDance {
             int used = 0;
             for (int i = 0; i < count; i++) {
                 int which = signAt(i) - firstSign;
-                if (i >= size || which < 0 || which >= size || (used >>> which & 1) == 1) {
+                if (which < 0 || which >= size || Cells.isIn(used, which)) {
                     return i;
                 }
                 used |= 1 << which;
@@ -736,7 +742,7 @@ public final class RoundDance {
 
         private void add(int amount, int good, int place) {
             if (count < MOST) {
-                Cells.put(marks, count, amount << 6 | good << 3 | place);
+                Cells.put(marks, count, (amount << 6) | (good << 3) | place);
                 count++;
             }
         }
@@ -750,7 +756,7 @@ public final class RoundDance {
         }
 
         private int good(int i) {
-            return mark(i) >>> 3 & 7;
+            return (mark(i) >>> 3) & 7;
         }
 
         private int place(int i) {
@@ -808,7 +814,7 @@ public final class RoundDance {
         }
 
         private boolean may(int figure) {
-            return (Cells.at(musics, figure) & played) != 0 && (lent >>> figure & 1) == 0;
+            return (Cells.at(musics, figure) & played) != 0 && !Cells.isIn(lent, figure);
         }
 
         private int danced(int figure) {
@@ -888,7 +894,7 @@ public final class RoundDance {
     /**
      * All maps that figures make together, by a table as of Sims: at 8 p + q a map that leaves all places
      * ahead of p and takes p to q. It is whole when each product of two of its maps sifts to nothing.
-     * Where figures only exchange, all that can be come to can be come back from, too.
+     * A figure danced on and on undoes itself, so that no rows but a group's are to be counted.
      */
     private static final class Group {
         private static final int MISSING = -1;
@@ -1049,7 +1055,7 @@ public final class RoundDance {
             int used = 0;
             for (int i = 0; i < goods; i++) {
                 int place = Maps.to(lying, i);
-                int below = Integer.bitCount(used & (1 << place) - 1);
+                int below = Integer.bitCount(used & ((1 << place) - 1));
                 rank = rank * (size - i) + place - below;
                 used |= 1 << place;
             }
@@ -1169,7 +1175,7 @@ public final class RoundDance {
         private void explore(int size, int[] moves) {
             int start = 0;
             for (int good = 0; good < size; good++) {
-                if ((seenGoods >>> good & 1) == 1) {
+                if (Cells.isIn(seenGoods, good)) {
                     start = Maps.with(start, slotOf(good), good);
                 }
             }
@@ -1184,11 +1190,11 @@ public final class RoundDance {
 
         /** The orbit holds the goods that were seen alone, in their order. */
         private int slotOf(int good) {
-            return Integer.bitCount(seenGoods & (1 << good) - 1);
+            return Integer.bitCount(seenGoods & ((1 << good) - 1));
         }
 
         private boolean fits(int time, int lying) {
-            if ((seenTimes >>> time & 1) == 0) {
+            if (!Cells.isIn(seenTimes, time)) {
                 return true;
             }
             for (int i = 0; i < sights.count; i++) {
@@ -1212,7 +1218,7 @@ public final class RoundDance {
                     }
                     Cells.putLong(waysFrom, s, ways);
                     if (ways > 0) {
-                        Cells.put(fitting, s, Cells.at(fitting, s) | 1 << time);
+                        Cells.put(fitting, s, Cells.at(fitting, s) | (1 << time));
                     }
                 }
             }
@@ -1229,7 +1235,7 @@ public final class RoundDance {
         }
 
         private boolean isFitting(int s, int time) {
-            return s != Orbit.NOT_MET && (Cells.at(fitting, s) >>> time & 1) == 1;
+            return s != Orbit.NOT_MET && Cells.isIn(Cells.at(fitting, s), time);
         }
 
         private void gatherCandidates(int m) {
@@ -1237,7 +1243,7 @@ public final class RoundDance {
             for (int time = 0; time < m; time++) {
                 int figures = 0;
                 for (int s = 0; s < orbit.count; s++) {
-                    if ((Cells.at(reached, s) >>> time & 1) == 1) {
+                    if (Cells.isIn(Cells.at(reached, s), time)) {
                         figures |= figuresOn(s, time);
                     }
                 }
@@ -1251,7 +1257,7 @@ public final class RoundDance {
                 int next = orbit.step(s, f);
                 if (isFitting(next, time + 1)) {
                     figures |= 1 << f;
-                    Cells.put(reached, next, Cells.at(reached, next) | 1 << time + 1);
+                    Cells.put(reached, next, Cells.at(reached, next) | (1 << (time + 1)));
                 }
             }
             return figures;
@@ -1355,7 +1361,7 @@ public final class RoundDance {
         private int worth(int held) {
             int sum = 0;
             for (int i = 0; i < wishes.count; i++) {
-                if ((held >>> i & 1) == 1) {
+                if (Cells.isIn(held, i)) {
                     sum += wishes.amount(i);
                 }
             }

@@ -359,6 +359,7 @@ public final class PromisesTest {
         due("16 the same", 1, x.want(0, 1));
         due("16 another one", STATE, x.want(1, 1));
         due("16 elsewhere", NONE, x.want(1, 2));
+        due("16 a later one", STATE, x.want(0, 2));
         due("16 not", 1, x.want(0, -1));
         due("16 not again", NONE, x.want(0, -1));
         due("16 free now", 2, x.want(1, 1));
@@ -446,8 +447,16 @@ public final class PromisesTest {
         write(y, "A");
         y.dance();
         due("18 from elsewhere, as many", 8, y.standings());
-        RoundDance z = market(6, "123405", "013452");
-        due("18 some of the even and of the odd ones", 120, z.standings());
+        due("18 some of the even and of the odd ones", 120, market(6, "123405", "013452").standings());
+        due("18 a line of five", 20, market(5, "12340", "02413").standings());
+        due("18 a line of seven", 42, market(7, "1234560", "0362514").standings());
+        due("18 half of it", 21, market(7, "1234560", "0246135").standings());
+        due("18 a line of seven and a far one", 336, market(8, "12345607", "03625147", "76325410").standings());
+        due("18 half of it", 168, market(8, "12345607", "76325410").standings());
+        due("18 two sides of four", 1152, market(8, "12304567", "10234567", "45670123").standings());
+        due("18 four pairs", 384, market(8, "10234567", "23456701", "23014567").standings());
+        due("18 a cube's corners, straight", 1344, market(8, "10325476", "02461357", "03214765").standings());
+        due("18 eight round, and over", 16, market(8, "12345670", "76543210").standings());
     }
 
     private static void promise19CanBe() {
@@ -493,6 +502,8 @@ public final class PromisesTest {
         x.set(0, 1);
         due("20 with a LAME one", 6, x.sure(1));
         due("20 LAME", 1, x.sure(0));
+        RoundDance y = market(8, "70123456");
+        due("20 all round", 255, y.sure(0));
         due("20 -1", UNKNOWN, x.sure(-1));
         due("20 5", UNKNOWN, x.sure(5));
     }
@@ -530,7 +541,17 @@ public final class PromisesTest {
         x.caller(1, 2);
         due("22 nothing counts", 2, x.forced(0, 3));
         due("22 and again", 4, x.forced(0, 2));
-        x.set(2, 7);
+        x.caller(0, 3);
+        x.set(2, 0);
+        due("22 by the other's only", 2, x.forced(1, 3));
+        x.caller(0, 0);
+        x.caller(1, 1);
+        due("22 he has none", 2, x.forced(0, 1));
+        due("22 he has none", 6, x.forced(0, 3));
+        x.caller(1, 0);
+        due("22 none has", NONE, x.forced(0, 1));
+        x.caller(0, 63);
+        x.set(2, 7 | 56);
         due("22 none may", NONE, x.forced(0, 1));
         x.set(2, 0);
         write(x, "A");
@@ -543,6 +564,16 @@ public final class PromisesTest {
         due("22 good 4", UNKNOWN, x.forced(4, 0));
         due("22 place -1", UNKNOWN, x.forced(0, -1));
         due("22 place 4", UNKNOWN, x.forced(0, 4));
+    }
+
+    private static void promise22WorstCase() {
+        RoundDance x = market(4, "1230", "3012", "1023", "0213");
+        x.caller(0, 1);
+        x.caller(1, 1 | 4);
+        due("22 now by his, now by the other's", 5, x.forced(1, 0));
+        due("22 now by his, now by the other's", 3, x.forced(1, 3));
+        x.caller(1, 4 | 8);
+        due("22 the worse of two", 5, x.forced(2, 1));
     }
 
     private static void promise23Seen() {
@@ -726,6 +757,9 @@ public final class PromisesTest {
         due("30 what", OUTSIDE, x.night(0, 0, 0, 2));
         due("30 what -1", OUTSIDE, x.night(0, 0, 0, -1));
         RoundDance y = market(8, "12345670");
+        y.set(2, 2);
+        due("30 of five", 5, y.night(9999, 99, 0, 1));
+        y.set(2, 0);
         due("30 of six the first alone goes on", 7, y.night(9999, 99, 0, 1));
     }
 
@@ -783,7 +817,11 @@ public final class PromisesTest {
         x.forget();
         x.drop();
         x.home();
+        x.wish(2, 2, 8);
+        x.seen(0, 1, 2);
         due("32 again", 1, x.restore(1));
+        due("32 the WISH itself again", 7, x.served(0, -1));
+        due("32 the SIGHT itself again", 1, x.rows(0));
         due("32 LAME again", 2, x.told(2));
         due("32 WANT again", 2, x.told(41));
         due("32 SIGHTS again", 1, x.told(5));
@@ -825,6 +863,61 @@ public final class PromisesTest {
         }
     }
 
+    /** The same dear calls behind each thing that they hang on: none may answer as before. */
+    private static void answersAreOfNow() {
+        RoundDance x = market(4, "1230");
+        x.want(0, 1);
+        x.wish(0, 1, 5);
+        x.seen(1, 0, 1);
+        now(x, "A", 1, 1, 5);
+        x.set(2, 1);
+        now(x, "LENT", NONE, 0, 0);
+        x.set(2, 0);
+        x.set(0, 2);
+        now(x, "LAME", NONE, 0, 0);
+        x.set(0, 0);
+        x.set(1, 2);
+        x.music(0, 1);
+        now(x, "MUSIC", NONE, 0, 0);
+        x.set(1, 1);
+        now(x, "MUSIC again", 1, 1, 5);
+        x.image(0);
+        give(x, 0, "2301");
+        now(x, "another A", NONE, 0, 0);
+        x.restore(0);
+        write(x, "A");
+        x.dance();
+        now(x, "DANCED", 0, 1, 5);
+        write(x, "A");
+        x.dance();
+        now(x, "DANCED twice", 3, 1, 0);
+        x.home();
+        now(x, "at home", 1, 1, 5);
+        x.want(0, -1);
+        x.want(1, 1);
+        x.drop();
+        x.wish(1, 1, 6);
+        x.forget();
+        x.seen(1, 1, 1);
+        now(x, "GOOD 1", 0, 5, 6);
+        x.want(1, 3);
+        x.drop();
+        x.wish(1, 3, 6);
+        x.forget();
+        x.seen(1, 1, 3);
+        now(x, "PLACE 3", 2, 0, 0);
+        x.restore(0);
+        now(x, "restored", 1, 1, 5);
+        x.places(4);
+        now(x, "as at first", 0, 6, 0);
+    }
+
+    private static void now(RoundDance x, String behind, int fewest, long rows, int served) {
+        due("fewest behind " + behind, fewest, x.fewest(-1));
+        due("rows behind " + behind, rows, x.rows(1));
+        due("served behind " + behind, served, x.served(1, -1));
+    }
+
     public static void main(String[] args) {
         constants();
         promise1ANewObject();
@@ -850,6 +943,7 @@ public final class PromisesTest {
         promise20Sure();
         promise21Caller();
         promise22Forced();
+        promise22WorstCase();
         promise23Seen();
         promise24Forget();
         promise25Rows();
@@ -860,6 +954,7 @@ public final class PromisesTest {
         promise30Night();
         promise31And32Images();
         promise33Told();
+        answersAreOfNow();
         System.out.println("PromisesTest: " + asked + " answers, " + wrong + " wrong");
         if (wrong != 0) {
             System.exit(1);
