@@ -168,9 +168,10 @@ abstract class Edges {
         busyKeeps = true;
     }
 
-    /** Looked at three times, as restoring an image ends what there was. */
+    /** Looked at more than once, each time anew: a look uses up the pad, and restoring ends what there was. */
     static void unchanged(String edge, Maker spared, Maker asked) {
         same(edge, lookAtNow(spared.make()), lookAtNow(asked.make()));
+        same(edge + ", the GOODS", lookAtGoods(spared.make()), lookAtGoods(asked.make()));
         same(edge + ", the IMAGES", lookAtImages(spared.make(), 0, 1), lookAtImages(asked.make(), 0, 1));
         same(edge + ", the IMAGES", lookAtImages(spared.make(), 1, 0), lookAtImages(asked.make(), 1, 0));
     }
@@ -196,6 +197,16 @@ abstract class Edges {
         lookAtHeld(x, look);
         lookAtAnswers(x, look);
         lookAtPad(x, look);
+        return look;
+    }
+
+    /** By where alone: a told that moved them would hide it from the look at all. */
+    private static List<String> lookAtGoods(RoundDance x) {
+        List<String> look = new ArrayList<>();
+        for (int k = 0; k < 3; k++) {
+            look.add("where(" + k + ", 0) = " + x.where(k, 0));
+            look.add("where(" + k + ", 1) = " + x.where(k, 1));
+        }
         return look;
     }
 

@@ -209,6 +209,46 @@ public final class EdgesOfCallersTest extends Edges {
         unchangedBy("24: none to forget", () -> busy("DAD", 0), y -> y.forget());
     }
 
+    /** What was asked ahead of forgetting must not be answered behind it, even if a part is said again. */
+    private static void forgetAndSayAgain() {
+        RoundDance x = oneSight(2, 0, 2);
+        x.seen(1, 0, 3);
+        due("24: two SIGHTS: BB alone", 1, x.rows(2));
+        due("24: two SIGHTS: the first", 'B', x.came(2, 0, 0));
+        x.forget();
+        due("24: none of them: all", 4, x.rows(2));
+        x.seen(2, 0, 2);
+        due("24: one of them again: AA, BB", 2, x.rows(2));
+        due("24: one of them again: the first", 'A', x.came(2, 0, 0));
+        RoundDance y = oneSight(2, 0, 2);
+        y.seen(1, 0, 3);
+        due("24: two SIGHTS once more", 1, y.rows(2));
+        y.forget();
+        y.seen(2, 0, 2);
+        due("24: one of them at once again: AA, BB", 2, y.rows(2));
+        for (int again = 0; again <= 6; again++) {
+            RoundDance z = sights(6);
+            due("24: six SIGHTS: each FIGURE is told", 1, z.rows(6));
+            z.forget();
+            sayFirst(z, again);
+            due("24: of six the first " + again + " again", 1L << 6 - again, z.rows(6));
+        }
+    }
+
+    /** Sights behind 1, 2 and so on of a row of A alone: each tells one figure. */
+    private static RoundDance sights(int many) {
+        RoundDance x = market(4, "1230", "3012");
+        x.set(2, 60);
+        sayFirst(x, many);
+        return x;
+    }
+
+    private static void sayFirst(RoundDance x, int many) {
+        for (int i = 1; i <= many; i++) {
+            x.seen(i, 0, i % 4);
+        }
+    }
+
     // ---- promise 25
 
     private static void rowsByNumbers() {
@@ -396,7 +436,8 @@ public final class EdgesOfCallersTest extends Edges {
             refused("26: what " + what, OUTSIDE, x -> x.came(12, 11, what));
             due("26: what " + what + " ahead of NONE", OUTSIDE, oneSight(0, 0, 1).came(1, 0, what));
         }
-        unchangedBy("26: asking changes nothing", () -> busy("DAD"), x -> x.came(12, 0, 0) + x.came(12, 11, 1));
+        unchangedBy("26: asking for the first changes nothing", () -> busy("DAD"), x -> x.came(12, 0, 0));
+        unchangedBy("26: asking for all changes nothing", () -> busy("DAD"), x -> x.came(12, 11, 1));
         Maker none = () -> {
             RoundDance x = busy("DAD");
             x.seen(12, 0, 4);
@@ -420,6 +461,7 @@ public final class EdgesOfCallersTest extends Edges {
         seenRefused();
         seenFull();
         forgetNoneAndAll();
+        forgetAndSayAgain();
         rowsByNumbers();
         rowsBySights();
         rowsBySixSights();

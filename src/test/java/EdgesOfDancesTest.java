@@ -205,6 +205,8 @@ public final class EdgesOfDancesTest extends Edges {
             refused("13: what " + what, OUTSIDE, x -> x.where(0, what));
             refused("13: what " + what + " of the last", OUTSIDE, x -> x.where(4, what));
         }
+        unchangedBy("13: asking for a GOOD changes nothing", () -> busy("DAD"), x -> x.where(0, 0));
+        unchangedBy("13: asking for a PLACE changes nothing", () -> busy("43210"), x -> x.where(4, 1));
         for (int n = 3; n <= 8; n++) {
             int places = n;
             refused("13: one more than " + n, UNKNOWN, () -> market(places, round(places)),
@@ -315,7 +317,8 @@ public final class EdgesOfDancesTest extends Edges {
         for (int f : unknown) {
             refused("15: FIGURE " + f, UNKNOWN, x -> x.sign(f));
         }
-        unchangedBy("15: it changes nothing", () -> busy("DAD"), x -> x.sign(0) + x.sign(5));
+        unchangedBy("15: asking changes nothing", () -> busy("DAD"), x -> x.sign(0));
+        unchangedBy("15: asking for the last changes nothing", () -> busy("DAD"), x -> x.sign(5));
     }
 
     public static void main(String[] args) {

@@ -71,6 +71,36 @@ public final class EdgesOfEveningsTest extends Edges {
         unchangedBy("28: none to drop", () -> busy("DAD", 0), y -> y.drop());
     }
 
+    /** What was asked ahead of dropping must not be answered behind it, even if a part is wished again. */
+    private static void dropAndWishAgain() {
+        for (int asked = 0; asked < 2; asked++) {
+            RoundDance x = market(4, "1230");
+            x.wish(0, 0, 5);
+            x.wish(0, 1, 9);
+            due("28: two WISHES", 14, x.served(1, -1));
+            x.drop();
+            if (asked == 1) {
+                due("28: none of them", 0, x.served(1, -1));
+            }
+            x.wish(0, 0, 5);
+            due("28: one of them again", 5, x.served(1, -1));
+        }
+        for (int again = 0; again <= 6; again++) {
+            RoundDance x = market(4, "1230");
+            wishFirst(x, 6);
+            due("28: six WISHES", 21, x.served(1, -1));
+            x.drop();
+            wishFirst(x, again);
+            due("28: of six the first " + again + " again", again * (again + 1) / 2, x.served(1, -1));
+        }
+    }
+
+    private static void wishFirst(RoundDance x, int many) {
+        for (int i = 1; i <= many; i++) {
+            x.wish(i % 4, i % 4, i);
+        }
+    }
+
     // ---- promise 29
 
     private static void due29(String edge, RoundDance x, int worth, String row) {
@@ -178,7 +208,8 @@ public final class EdgesOfEveningsTest extends Edges {
             none.set(2, ALL_FIGURES);
             due("29: m " + m + " ahead of NONE", OUTSIDE, none.served(m, -1));
         }
-        unchangedBy("29: asking changes nothing", () -> busy("DAD"), x -> x.served(6, -1) + x.served(6, 5));
+        unchangedBy("29: asking changes nothing", () -> busy("DAD"), x -> x.served(6, -1));
+        unchangedBy("29: asking for a FIGURE changes nothing", () -> busy("DAD"), x -> x.served(6, 5));
         unchangedBy("29: NONE behind the last changes nothing", () -> busy("DAD"), x -> x.served(6, 6));
         Maker none = () -> {
             RoundDance x = busy("DAD");
@@ -311,7 +342,8 @@ public final class EdgesOfEveningsTest extends Edges {
             refused("30: what " + what, OUTSIDE, x -> x.night(9999, 99, 4, what));
             refused("30: what " + what + " of 0 FIGURES", OUTSIDE, x -> x.night(0, 0, 0, what));
         }
-        unchangedBy("30: asking changes nothing", () -> busy("DAD"), x -> x.night(9999, 99, 0, 0));
+        unchangedBy("30: asking who held it changes nothing", () -> busy("DAD"), x -> x.night(9999, 99, 0, 0));
+        unchangedBy("30: asking where it is changes nothing", () -> busy("DAD"), x -> x.night(9999, 99, 0, 1));
     }
 
     // ---- promises 31 and 32
@@ -557,6 +589,7 @@ public final class EdgesOfEveningsTest extends Edges {
         wishRefused();
         wishFull();
         dropNoneAndAll();
+        dropAndWishAgain();
         servedByAnyRow();
         servedByNoRow();
         servedAheadAndBehind();

@@ -391,6 +391,8 @@ public final class EdgesOfFiguresTest extends Edges {
             refused("7: danced " + danced, OUTSIDE, x -> x.goes(0, 0, danced));
             refused("7: danced " + danced + " at the last", OUTSIDE, x -> x.goes(5, 4, danced));
         }
+        unchangedBy("7: asking changes nothing, as told", () -> busy("DAD"), x -> x.goes(0, 0, 0));
+        unchangedBy("7: asking changes nothing, danced", () -> busy("43210"), x -> x.goes(5, 4, 1));
         for (int n = 3; n <= 8; n++) {
             int places = n;
             refused("7: PLACE " + n + " of " + n, UNKNOWN, () -> market(places, round(places)),

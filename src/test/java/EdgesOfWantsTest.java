@@ -305,7 +305,8 @@ public final class EdgesOfWantsTest extends Edges {
     private static void askingChangesNothing() {
         for (String pad : PADS) {
             Maker maker = () -> busy(pad);
-            unchangedBy("17: asking changes nothing, '" + pad + "'", maker, x -> x.fewest(-1) + x.fewest(0));
+            unchangedBy("17: asking changes nothing, '" + pad + "'", maker, x -> x.fewest(-1));
+            unchangedBy("17: asking for a FIGURE changes nothing, '" + pad + "'", maker, x -> x.fewest(0));
             unchangedBy("17: NONE behind the last changes nothing, '" + pad + "'", maker, x -> x.fewest(MOST));
             unchangedBy("18: asking changes nothing, '" + pad + "'", maker, x -> x.standings());
             unchangedBy("20: asking changes nothing, '" + pad + "'", maker, x -> x.sure(0));
