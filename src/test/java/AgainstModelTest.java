@@ -1,6 +1,13 @@
-/** Runs of drawn calls, each held against PlainModel; behind each call all that told answers, too. */
+/**
+ * Runs of drawn calls, each held against PlainModel; behind each call some of what told answers, too, and all of it
+ * at a run's end. No object is used for more calls than the document promises anything about.
+ */
 public final class AgainstModelTest {
-    private static final int SMALL_RUNS = 260, WIDE_RUNS = 16;
+    private static final int SMALL_RUNS = 1700, WIDE_RUNS = 40, TRUTHFUL_RUNS = 60, WIDE_TRUTHFUL_RUNS = 6;
+    private static final int MOST_CALLS = 512;
+    /** What one drawn call may take at most: six figures told anew, and what is asked behind it. */
+    private static final int DEAREST_DRAWN = 72;
+    private static final int LEAST_TOLD = -1, MOST_TOLD = 50;
     private static final String[] CALLS = {
         "places", "say", "wipe", "fault", "figure", "goes", "set", "music", "judge", "dance", "home", "where",
         "length", "sign", "want", "fewest", "standings", "canBe", "sure", "caller", "forced", "seen", "forget",
@@ -12,12 +19,14 @@ public final class AgainstModelTest {
     private static long drawn = 1;
     private static int wrong = 0;
     private static long asked = 0;
+    private static int mostUsed = 0;
 
     private final RoundDance x = new RoundDance();
     private final PlainModel y = new PlainModel();
     private final boolean wide;
     private final int run;
     private int calls = 0;
+    private int used = 0;
 
     private AgainstModelTest(int run, boolean wide) {
         this.run = run;
@@ -44,8 +53,11 @@ public final class AgainstModelTest {
         return low + draw(high - low + 1);
     }
 
+    /** Each answer is that of one call of the object. */
     private void same(String call, long got, long want) {
         asked++;
+        used++;
+        mostUsed = Math.max(mostUsed, used);
         if (got != want) {
             wrong++;
             if (wrong < 30) {
@@ -120,9 +132,28 @@ public final class AgainstModelTest {
         calls++;
         perform(CALLS[i]);
         askAgain();
-        for (int what = -1; what < 50; what++) {
-            same("told(" + what + ") behind " + CALLS[i], x.told(what), y.told(what));
+        for (int more = draw(3); more > 0; more--) {
+            tell(LEAST_TOLD + draw(MOST_TOLD - LEAST_TOLD), CALLS[i]);
         }
+    }
+
+    private void tell(int what, String behind) {
+        same("told(" + what + ") behind " + behind, x.told(what), y.told(what));
+    }
+
+    private void tellAll() {
+        for (int what = LEAST_TOLD; what < MOST_TOLD; what++) {
+            tell(what, "a run");
+        }
+    }
+
+    /** As many drawn calls as one object may answer. */
+    private void runOfDrawnCalls() {
+        open();
+        while (used + DEAREST_DRAWN + MOST_TOLD - LEAST_TOLD <= MOST_CALLS) {
+            call();
+        }
+        tellAll();
     }
 
     /** The same dear calls behind every other one: what a program keeps of them must not be too old. */
@@ -333,15 +364,14 @@ public final class AgainstModelTest {
 
     public static void main(String[] args) {
         for (int run = 0; run < SMALL_RUNS + WIDE_RUNS; run++) {
-            boolean wide = run >= SMALL_RUNS;
-            AgainstModelTest test = new AgainstModelTest(run, wide);
-            test.open();
-            for (int i = 0; i < (wide ? 60 : 250); i++) {
-                test.call();
-            }
+            new AgainstModelTest(run, run >= SMALL_RUNS).runOfDrawnCalls();
         }
-        for (int run = 0; run < 40; run++) {
-            new AgainstModelTest(-1 - run, run >= 36).truthful(run % 7, run % 4);
+        for (int run = 0; run < TRUTHFUL_RUNS + WIDE_TRUTHFUL_RUNS; run++) {
+            new AgainstModelTest(-1 - run, run >= TRUTHFUL_RUNS).truthful(run % 7, run % 4);
+        }
+        if (mostUsed > MOST_CALLS) {
+            wrong++;
+            System.out.println("an object was used for " + mostUsed + " calls");
         }
         System.out.println("AgainstModelTest: " + asked + " answers, " + wrong + " wrong");
         if (wrong != 0) {

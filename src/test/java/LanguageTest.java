@@ -23,8 +23,9 @@ public final class LanguageTest {
         "int forced(int,int)", "int seen(int,int,int)", "int forget()", "long rows(int)",
         "int came(int,int,int)", "int wish(int,int,int)", "int drop()", "int served(int,int)",
         "int night(int,int,int,int)", "int image(int)", "int restore(int)", "int told(int)"};
-    private static final Set<String> CONSTANTS =
-            new TreeSet<>(Arrays.asList("UNKNOWN", "OUTSIDE", "STATE", "FULL", "NO", "NONE"));
+    private static final String[] CONSTANT_NAMES = {"UNKNOWN", "OUTSIDE", "STATE", "FULL", "NO", "NONE"};
+    private static final int[] CONSTANT_VALUES = {-1, -2, -3, -4, -5, -6};
+    private static final Set<String> CONSTANTS = new TreeSet<>(Arrays.asList(CONSTANT_NAMES));
     private static final String[] FORBIDDEN = {
         "\\b(throw|throws|try|catch|finally|synchronized|assert|import|package|protected|volatile)\\b",
         "->", "::", "\\bExact\\b", "Exact\\(", "\\bSystem\\b", "\\bRandom\\b", "\\bThread\\b", "\\bequals\\b",
@@ -78,6 +79,15 @@ public final class LanguageTest {
         }
     }
 
+    private static void constants() throws IllegalAccessException, NoSuchFieldException {
+        for (int i = 0; i < CONSTANT_NAMES.length; i++) {
+            Field f = RoundDance.class.getField(CONSTANT_NAMES[i]);
+            boolean constant = Modifier.isStatic(f.getModifiers()) && Modifier.isFinal(f.getModifiers());
+            must(constant && f.getType() == int.class, "rule 1: a constant of int: " + f);
+            must(f.getInt(null) == CONSTANT_VALUES[i], "the face: " + f + " is " + f.getInt(null));
+        }
+    }
+
     private static void membersOf(Class<?> c, boolean outer, Set<String> faceNames) {
         int fields = 0;
         for (Field f : c.getDeclaredFields()) {
@@ -119,6 +129,7 @@ public final class LanguageTest {
 
     public static void main(String[] args) throws Exception {
         face();
+        constants();
         text(new String(Files.readAllBytes(Path.of(args[0])), StandardCharsets.ISO_8859_1));
         System.out.println("LanguageTest: " + looked + " looks, " + wrong + " wrong");
         if (wrong != 0) {

@@ -1,74 +1,72 @@
 import java.lang.management.ManagementFactory;
-import java.lang.reflect.Array;
-import java.lang.reflect.Field;
-import java.lang.reflect.Modifier;
-import java.util.ArrayList;
-import java.util.IdentityHashMap;
-import java.util.List;
-import java.util.Map;
 
-/** What a run of the dearest calls makes must stay far below the room that LANGUAGE.md's program has. */
+/**
+ * What a run of as many of the dearest calls as an object answers makes in all must stay far inside the room for a
+ * run: 600,000 objects and arrays, 7.3 million fields and elements. Bytes are counted: a field or an element takes
+ * one at least, an object or an array sixteen.
+ */
 public final class RoomTest {
-    private static final long MOST_OBJECTS = 200, MOST_CELLS = 500000, MOST_BYTES = 4000000;
+    private static final int MOST_CALLS = 512;
+    private static final long MOST_BYTES = 7300000, MOST_BYTES_OF_A_NEW_OBJECT = 20000;
     private static final String[] FIGURES = {"12345670", "10234567", "21034567", "76543210", "12045673", "01234576"};
 
-    private static RoundDance filled(int n, int sights) {
-        RoundDance x = new RoundDance();
-        refill(x, n, sights);
-        return x;
+    private final RoundDance x = new RoundDance();
+    private int used = 0;
+    private long sum = 0;
+
+    /** Counts a call; what it answered is added up, so that no call is left out as useless. */
+    private void call(long answer) {
+        used++;
+        sum += answer;
     }
 
-    private static void refill(RoundDance x, int n, int sights) {
-        x.places(n);
-        x.wipe();
+    private void fill(int n, int notes) {
+        call(x.places(n));
+        call(x.wipe());
         for (int f = 0; f < 6; f++) {
             for (int p = 0; p < 8; p++) {
                 int to = FIGURES[f].charAt(p);
                 if (to < '0' + n) {
-                    x.say(to);
+                    call(x.say(to));
                 }
             }
-            x.figure(f);
+            call(x.figure(f));
         }
         for (int k = 0; k < n; k++) {
-            x.want(k, n - 1 - k);
+            call(x.want(k, n - 1 - k));
         }
-        for (int i = 0; i < sights && i < n; i++) {
-            x.seen(12, i, (i + 3) % n);
-            x.wish(i, (i + 5) % n, 1 + 7 * i);
+        for (int i = 0; i < notes && i < n; i++) {
+            call(x.seen(12, i, (i + 3) % n));
+            call(x.wish(i, (i + 5) % n, 1 + 7 * i));
         }
     }
 
-    private static long askAll(RoundDance x, int seed) {
-        return x.fewest(-1) + x.standings() + x.rows(12) + x.came(12, 5, 1) + x.served(6, -1)
-                + x.forced(seed % 3, 2) + x.night(seed, 99, 0, 0) + x.image(0) + x.restore(0);
+    private void askAll(int seed) {
+        call(x.set(2, 8 + seed % 2));
+        call(x.fewest(-1));
+        call(x.standings());
+        call(x.rows(12));
+        call(x.came(12, 5, 1));
+        call(x.served(6, -1));
+        call(x.forced(seed % 3, 2));
+        call(x.night(seed, 99, 0, 0));
+        call(x.image(seed % 2));
+        call(x.restore(seed % 2));
     }
 
-    private static long[] held(Object root) throws IllegalAccessException {
-        Map<Object, Boolean> known = new IdentityHashMap<>();
-        List<Object> open = new ArrayList<>();
-        open.add(root);
-        known.put(root, true);
-        long cells = 0;
-        for (int i = 0; i < open.size(); i++) {
-            Object o = open.get(i);
-            if (o.getClass().isArray()) {
-                cells += Array.getLength(o);
-                continue;
-            }
-            for (Field f : o.getClass().getDeclaredFields()) {
-                if (Modifier.isStatic(f.getModifiers())) {
-                    continue;
-                }
-                cells++;
-                f.setAccessible(true);
-                Object v = f.get(o);
-                if (!f.getType().isPrimitive() && v != null && known.put(v, true) == null) {
-                    open.add(v);
-                }
-            }
+    /** Rows that grow with the places, if they do: from the fewest to the most. */
+    private void growing() {
+        for (int n = 3; n <= 8; n++) {
+            fill(n, 6);
+            askAll(n);
         }
-        return new long[] {open.size(), cells};
+    }
+
+    private void often() {
+        fill(8, 6);
+        for (int seed = 0; used + 10 <= MOST_CALLS; seed++) {
+            askAll(seed);
+        }
     }
 
     private static long allocated() {
@@ -76,28 +74,31 @@ public final class RoomTest {
         return bean.getThreadAllocatedBytes(Thread.currentThread().getId());
     }
 
-    public static void main(String[] args) throws Exception {
-        askAll(filled(8, 6), 0);
-        long before = allocated();
-        RoundDance x = filled(3, 1);
-        for (int n = 3; n <= 8; n++) {
-            for (int sights = 0; sights <= 6; sights++) {
-                refill(x, n, sights);
-                askAll(x, n);
-            }
+    private static boolean holds(String what, long bytes, long most, int calls) {
+        System.out.println("RoomTest: " + what + ": " + bytes + " bytes are made in " + calls + " calls");
+        if (bytes > most || calls > MOST_CALLS) {
+            System.out.println("RoomTest: " + what + ": that is too much");
+            return false;
         }
-        for (int i = 0; i < 20; i++) {
-            x.set(2, i & 1);
-            askAll(x, i);
-        }
-        long bytes = allocated() - before;
-        long[] held = held(x);
-        System.out.println("RoomTest: " + held[0] + " objects and arrays with " + held[1]
-                + " fields and elements are held; made in all: " + bytes + " bytes");
-        long[] fresh = held(new RoundDance());
-        System.out.println("RoomTest: a new object: " + fresh[0] + " with " + fresh[1]);
-        if (held[0] > MOST_OBJECTS || held[1] > MOST_CELLS || bytes > MOST_BYTES || fresh[1] > 2000) {
-            System.out.println("RoomTest: that is too much");
+        return true;
+    }
+
+    public static void main(String[] args) {
+        RoomTest first = new RoomTest();
+        first.often();
+        long start = allocated();
+        RoundDance fresh = new RoundDance();
+        long made = allocated();
+        RoomTest growing = new RoomTest();
+        growing.growing();
+        long grown = allocated();
+        RoomTest often = new RoomTest();
+        often.often();
+        long end = allocated();
+        boolean all = holds("a new object", made - start, MOST_BYTES_OF_A_NEW_OBJECT, fresh.told(0));
+        all &= holds("more and more places", grown - made, MOST_BYTES, growing.used);
+        all &= holds("the same again and again", end - grown, MOST_BYTES, often.used);
+        if (!all || first.sum != often.sum) {
             System.exit(1);
         }
     }
