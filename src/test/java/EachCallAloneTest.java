@@ -93,6 +93,34 @@ public final class EachCallAloneTest extends Edges {
         }
     }
 
+    /** As many PLACES as may be, of whose GOODS as many are away as can be, where nothing else is as at first. */
+    private static RoundDance settled(int n) {
+        RoundDance x = market(n, round(n), exchange(n), downTo('0', n));
+        x.image(0);
+        x.set(1, 2);
+        x.music(3, 1);
+        x.set(2, 48);
+        x.caller(0, 7);
+        x.caller(1, 56);
+        x.want(n - 1, 0);
+        x.seen(1, 0, 1);
+        x.wish(1, 2, 33);
+        x.image(1);
+        return x;
+    }
+
+    private static void homeFromAll() {
+        for (int n = 3; n <= 8; n++) {
+            int places = n;
+            for (String row : new String[] {"A", "B", "C", "AB", "BC"}) {
+                unchangedBy("12: '" + row + "' of " + n + " danced and home", () -> settled(places), x -> {
+                    danceRow(x, row);
+                    return x.home();
+                });
+            }
+        }
+    }
+
     private static void want() {
         for (int place : new int[] {1, 2, 3, 4, -1}) {
             undone("16: GOOD 0 wanted at " + place + " and as before", x -> x.want(0, place) + x.want(0, 3));
@@ -285,6 +313,7 @@ public final class EachCallAloneTest extends Edges {
         music();
         dance();
         home();
+        homeFromAll();
         want();
         caller();
         notes();
